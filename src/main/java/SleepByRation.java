@@ -463,6 +463,7 @@ public final class SleepByRation {
     private static final class Reader {
         private final Text text;
         private final Charter charter = new Charter();
+        // No quarter ever passes in the draft, and each guard that is told is told whole: nothing is left to clear.
         private final Roll roll = new Roll(charter);
         private int at;
         private int wrongAt;
@@ -476,7 +477,6 @@ public final class SleepByRation {
             at = 0;
             wrongAt = NONE;
             charter.clear();
-            roll.clear();
             readHead();
             for (int part = 0; part < MOST_BYTES && wrongAt == NONE && at < text.length; part++) {
                 readPart();
@@ -565,17 +565,6 @@ public final class SleepByRation {
 
         private Roll(Charter charter) {
             this.charter = charter;
-        }
-
-        private void clear() {
-            Arrays.fill(tired, 0);
-            Arrays.fill(stamps, 0);
-            Arrays.fill(owed, 0);
-            Arrays.fill(bedded, 0);
-            nodding = 0;
-            ill = 0;
-            quarters = 0;
-            blind = 0;
         }
 
         private void copyFrom(Roll from) {

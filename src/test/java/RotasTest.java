@@ -101,6 +101,11 @@ public final class RotasTest {
     x.fortress();
     due.are("a fortress without beds", rotaOf(x, 1), 24, 0);
     due.are("and two", rotaOf(x, 2), 28, 0, 0);
+    // As tired as it was, but it nods now: 17 19 21 20 19 18 17.
+    SleepByRation w = Due.fort("F120G1700");
+    due.is("awake", w.rota(1), 19);
+    for (int q = 0; q < 6; q++) w.quarter(0);
+    due.is("it nods, and would wake", w.rota(1), 16);
     // The same guards told anew, with other beds, another LIMIT, and as twins.
     String[] heads = {"F150", "F050", "F150", "F102", "F150", "F250"};
     String[] tails = {"", "", "", "", "T01", "T01"};
