@@ -67,7 +67,9 @@ public final class ActsTest {
 
   private static void mayWrong() {
     SleepByRation x = Due.fort("F550G0010G0010");
-    for (int s : new int[] {4, 5, 8, -1, -4, 1 << 31, Integer.MAX_VALUE}) due.refused("may(" + s + ")", x, () -> x.may(s), -2);
+    due.watch(x);
+    for (int s : new int[] {4, 5, 8, -1, -4, 1 << 31, Integer.MAX_VALUE}) due.is("may(" + s + ")", x.may(s), -2);
+    due.unchanged();
   }
 
   private static void quarterInBed() {
@@ -173,12 +175,16 @@ public final class ActsTest {
 
   private static void quarterWrong() {
     SleepByRation x = Due.fort("F110G0512G0500G0309");
-    for (int s : new int[] {8, 9, -1, 1 << 31, Integer.MAX_VALUE}) due.refused("quarter(" + s + ")", x, () -> x.quarter(s), -2);
-    due.refused("no stamp", x, () -> x.quarter(2), -3);
-    due.refused("more than beds", x, () -> x.quarter(5), -3);
+    due.watch(x);
+    for (int s : new int[] {8, 9, -1, 1 << 31, Integer.MAX_VALUE}) due.is("quarter(" + s + ")", x.quarter(s), -2);
+    due.is("no stamp", x.quarter(2), -3);
+    due.is("more than beds", x.quarter(5), -3);
+    due.unchanged();
     x.sick(2, true);
-    due.refused("a sick one that owes 9", x, () -> x.quarter(4), -3);
-    due.refused("BAD is told first", x, () -> x.quarter(13), -2);
+    due.watch(x);
+    due.is("a sick one that owes 9", x.quarter(4), -3);
+    due.is("BAD is told first", x.quarter(13), -2);
+    due.unchanged();
   }
 
   private static void drum() {
@@ -203,7 +209,9 @@ public final class ActsTest {
 
   private static void undo() {
     SleepByRation x = Due.fort("F207G0531G0592T01G0604");
-    due.refused("undo() of nothing", x, x::undo, -3);
+    due.watch(x);
+    due.is("undo() of nothing", x.undo(), -3);
+    due.unchanged();
     long[] first = Due.look(x);
     x.sick(2, true);
     x.quarter(5);
@@ -249,7 +257,9 @@ public final class ActsTest {
       due.is("quarters", x.about(3), 3 + left);
       due.is("tired", x.guard(0, 0), 1 + 2 * (3 + left));
     }
-    due.refused("the first three are forgotten", x, x::undo, -3);
+    due.watch(x);
+    due.is("the first three are forgotten", x.undo(), -3);
+    due.unchanged();
     for (int q = 0; q < 5; q++) x.quarter(0);
     for (int left = 4; left >= 0; left--) due.is("undo() once more", x.undo(), left);
     due.is("quarters", x.about(3), 3);

@@ -18,19 +18,23 @@ public final class BookTest {
 
   private static void use() {
     SleepByRation x = fort();
-    due.refused("guard 4", x, () -> x.use(0, 4, 0), -1);
-    due.refused("guard -1", x, () -> x.use(0, -1, 0), -1);
-    due.refused("UNKNOWN is told first", x, () -> x.use(100, 4, 100), -1);
+    due.watch(x);
+    due.is("guard 4", x.use(0, 4, 0), -1);
+    due.is("guard -1", x.use(0, -1, 0), -1);
+    due.is("UNKNOWN is told first", x.use(100, 4, 100), -1);
     for (int n : new int[] {-1, 100, Integer.MIN_VALUE, Integer.MAX_VALUE}) {
-      due.refused("number " + n, x, () -> x.use(n, 0, 0), -2);
-      due.refused("quarter " + n, x, () -> x.use(0, 0, n), -2);
+      due.is("number " + n, x.use(n, 0, 0), -2);
+      due.is("quarter " + n, x.use(0, 0, n), -2);
     }
+    due.unchanged();
     due.is("use(99, 3, 99)", x.use(99, 3, 99), 1);
     due.is("use(0, 0, 0)", x.use(0, 0, 0), 2);
     for (int i = 3; i <= 12; i++) due.is("use " + i, x.use(i, 1, i), i);
     due.is("about(9)", x.about(9), 12);
     due.is("none is forged", x.forged(), 0);
-    due.refused("a thirteenth", x, () -> x.use(99, 3, 98), -4);
+    due.watch(x);
+    due.is("a thirteenth", x.use(99, 3, 98), -4);
+    due.unchanged();
     due.is("BAD is told ahead of FULL", x.use(100, 3, 98), -2);
     due.is("UNKNOWN is told ahead of FULL", x.use(1, 9, 98), -1);
     due.is("no act", x.about(8), 0);

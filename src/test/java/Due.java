@@ -3,6 +3,8 @@ final class Due {
   private final String name;
   private int asked = 0;
   private int wrong = 0;
+  private SleepByRation watched;
+  private long[] before;
 
   Due(String name) {
     this.name = name;
@@ -46,34 +48,31 @@ final class Due {
     return x;
   }
 
-  /** All that the calls that only ask can tell of an object. */
+  /** All of an object that can be told: some 60 calls, of the 512 that it is used for. */
   static long[] look(SleepByRation x) {
-    long[] all = new long[128];
+    long[] all = new long[80];
     int n = 0;
     for (int w = 0; w <= 10; w++) all[n++] = x.about(w);
-    for (int g = 0; g < 5; g++) for (int w = 0; w <= 6; w++) all[n++] = x.guard(g, w);
-    all[n++] = x.fault();
-    for (int s = 0; s < 32; s++) all[n++] = x.may(s);
-    for (int r = 1; r <= 4; r++) {
-      all[n++] = x.rota(r);
-      for (int i = 0; i < r; i++) all[n++] = x.rotaAt(r, i);
+    for (int g = 0; g < x.about(0); g++) for (int w = 0; w <= 6; w++) all[n++] = x.guard(g, w);
+    for (int i = 0; i < 4; i++) {
+      int was = x.plan(i, 0);
+      x.plan(i, was);
+      all[n++] = was;
     }
-    all[n++] = x.allNod();
-    all[n++] = x.chance(2, 3, true);
-    all[n++] = x.chance(2, 3, false);
-    all[n++] = x.weakest();
-    all[n++] = x.settled(true);
-    all[n++] = x.settled(false);
+    all[n++] = x.fault();
     all[n++] = x.forged();
-    for (int i = 0; i < 4; i++) all[n++] = x.forgedAt(i);
+    for (int i = 0; i < 3; i++) all[n++] = x.forgedAt(i);
     all[n++] = x.forgers();
     return java.util.Arrays.copyOf(all, n);
   }
 
-  /** Runs a call that must be refused, and looks whether anything is otherwise behind it. */
-  void refused(String call, SleepByRation x, java.util.function.LongSupplier run, long want) {
-    long[] before = look(x);
-    is(call, run.getAsLong(), want);
-    are(call + " changes nothing", look(x), before);
+  /** From here to unchanged() all calls are refused ones, behind which nothing may be otherwise. */
+  void watch(SleepByRation x) {
+    watched = x;
+    before = look(x);
+  }
+
+  void unchanged() {
+    are("what is refused changes nothing", look(watched), before);
   }
 }

@@ -36,11 +36,13 @@ public final class FortressTest {
 
   private static void write() {
     SleepByRation x = new SleepByRation();
-    due.refused("write(0, ..)", x, () -> x.write(0, 70), -2);
-    due.refused("write(-1, ..)", x, () -> x.write(-1, 70), -2);
-    due.refused("write(9, ..)", x, () -> x.write(9, 70), -2);
-    due.refused("write(least, ..)", x, () -> x.write(Integer.MIN_VALUE, 70), -2);
-    due.refused("write(most, ..)", x, () -> x.write(Integer.MAX_VALUE, 70), -2);
+    due.watch(x);
+    due.is("write(0, ..)", x.write(0, 70), -2);
+    due.is("write(-1, ..)", x.write(-1, 70), -2);
+    due.is("write(9, ..)", x.write(9, 70), -2);
+    due.is("write(least, ..)", x.write(Integer.MIN_VALUE, 70), -2);
+    due.is("write(most, ..)", x.write(Integer.MAX_VALUE, 70), -2);
+    due.unchanged();
     // "XYF104" in the lowest six bytes: of four of them the highest comes first.
     due.is("write(4, XYF104)", x.write(4, 0x585946313034L), 4);
     due.is("fault() of F104", x.fault(), -9);
@@ -56,11 +58,15 @@ public final class FortressTest {
     due.is("fault() of byte 128", y.fault(), 0);
     for (int i = 2; i <= 5; i++) due.is("write(8) up to " + 8 * i, y.write(8, -1L), 8 * i);
     due.is("write(7, ..)", y.write(7, 0), 47);
-    due.refused("write(2) at 47", y, () -> y.write(2, 0), -4);
-    due.refused("write(8) at 47", y, () -> y.write(8, 0), -4);
+    due.watch(y);
+    due.is("write(2) at 47", y.write(2, 0), -4);
+    due.is("write(8) at 47", y.write(8, 0), -4);
+    due.unchanged();
     due.is("write(9) at 47: BAD is told first", y.write(9, 0), -2);
     due.is("write(1) at 47", y.write(1, 0), 48);
-    due.refused("write(1) at 48", y, () -> y.write(1, 0), -4);
+    due.watch(y);
+    due.is("write(1) at 48", y.write(1, 0), -4);
+    due.unchanged();
     due.is("write(0) at 48", y.write(0, 0), -2);
   }
 
@@ -138,7 +144,9 @@ public final class FortressTest {
 
   private static void fortress() {
     SleepByRation x = new SleepByRation();
-    due.refused("fortress() of nothing", x, x::fortress, -3);
+    due.watch(x);
+    due.is("fortress() of nothing", x.fortress(), -3);
+    due.unchanged();
     Due.put(x, "F309G1234");
     due.is("fortress()", x.fortress(), 1);
     due.is("the text stays", x.about(10), 9);
@@ -146,10 +154,14 @@ public final class FortressTest {
     x.plan(0, 1);
     x.keep(0);
     Due.put(x, "G");
-    due.refused("fortress() not at its end", x, x::fortress, -3);
+    due.watch(x);
+    due.is("fortress() not at its end", x.fortress(), -3);
+    due.unchanged();
     due.is("a refused one keeps the slots", x.again(0), 1);
     Due.put(x, "/");
-    due.refused("fortress() of a fault", x, x::fortress, -3);
+    due.watch(x);
+    due.is("fortress() of a fault", x.fortress(), -3);
+    due.unchanged();
     due.is("a refused one keeps the plan", x.plan(0, 1), 1);
     SleepByRation y = Due.fort("F512");
     due.is("no guards", y.about(0), 0);
@@ -205,9 +217,11 @@ public final class FortressTest {
     due.is("awake, not blind", x.about(4), 0);
     x.quarter(4);
     due.is("about(7)", x.about(7), 12);
+    due.watch(x);
     for (int w : new int[] {-1, 11, 12, Integer.MAX_VALUE, Integer.MIN_VALUE}) {
-      due.refused("about(" + w + ")", x, () -> x.about(w), -2);
+      due.is("about(" + w + ")", x.about(w), -2);
     }
+    due.unchanged();
     SleepByRation y = Due.fort("F105G0500");
     y.quarter(0);
     y.quarter(0);
@@ -253,10 +267,12 @@ public final class FortressTest {
     due.is("sick(1, false) again", x.sick(1, false), 0);
     due.is("who is sick", x.about(6), 1);
     due.is("no act", x.about(8), 0);
+    due.watch(x);
     for (int g : new int[] {-1, 2, 32, Integer.MIN_VALUE, Integer.MAX_VALUE}) {
-      due.refused("sick(" + g + ", true)", x, () -> x.sick(g, true), -1);
-      due.refused("sick(" + g + ", false)", x, () -> x.sick(g, false), -1);
+      due.is("sick(" + g + ", true)", x.sick(g, true), -1);
+      due.is("sick(" + g + ", false)", x.sick(g, false), -1);
     }
+    due.unchanged();
   }
 
   private static void hand() {
@@ -268,23 +284,28 @@ public final class FortressTest {
     due.is("hand(1, 0, 9)", x.hand(1, 0, 9), 9);
     due.is("all of them", x.guard(1, 1), 0);
     due.is("no act", x.about(8), 0);
-    due.refused("hand(1, 0, 1): LATE is told ahead of FULL", x, () -> x.hand(1, 0, 1), -3);
+    due.watch(x);
+    due.is("hand(1, 0, 1): LATE is told ahead of FULL", x.hand(1, 0, 1), -3);
+    due.unchanged();
     x.hand(0, 1, 4);
-    due.refused("it has not as many", x, () -> x.hand(0, 1, 6), -3);
-    due.refused("more than 9", x, () -> Due.fort("F208G0750G0962").hand(0, 1, 4), -4);
+    due.watch(x);
+    due.is("it has not as many", x.hand(0, 1, 6), -3);
+    due.unchanged();
     SleepByRation y = Due.fort("F208G0750G0962");
-    due.refused("more than 9", y, () -> y.hand(0, 1, 4), -4);
-    due.refused("hand(0, 0, 1)", y, () -> y.hand(0, 0, 1), -2);
-    due.refused("hand(0, 1, 0)", y, () -> y.hand(0, 1, 0), -2);
-    due.refused("hand(0, 1, 10)", y, () -> y.hand(0, 1, 10), -2);
-    due.refused("hand(0, 1, -1)", y, () -> y.hand(0, 1, -1), -2);
-    due.refused("hand(0, 1, least)", y, () -> y.hand(0, 1, Integer.MIN_VALUE), -2);
-    due.refused("hand(0, 1, most)", y, () -> y.hand(0, 1, Integer.MAX_VALUE), -2);
-    due.refused("hand(0, 2, 0): UNKNOWN is told first", y, () -> y.hand(0, 2, 0), -1);
-    due.refused("hand(2, 0, 1)", y, () -> y.hand(2, 0, 1), -1);
-    due.refused("hand(-1, 0, 1)", y, () -> y.hand(-1, 0, 1), -1);
-    due.refused("hand(0, -1, 1)", y, () -> y.hand(0, -1, 1), -1);
-    due.refused("hand(5, 5, 1)", y, () -> y.hand(5, 5, 1), -1);
+    due.watch(y);
+    due.is("more than 9", y.hand(0, 1, 4), -4);
+    due.is("hand(0, 0, 1)", y.hand(0, 0, 1), -2);
+    due.is("hand(0, 1, 0)", y.hand(0, 1, 0), -2);
+    due.is("hand(0, 1, 10)", y.hand(0, 1, 10), -2);
+    due.is("hand(0, 1, -1)", y.hand(0, 1, -1), -2);
+    due.is("hand(0, 1, least)", y.hand(0, 1, Integer.MIN_VALUE), -2);
+    due.is("hand(0, 1, most)", y.hand(0, 1, Integer.MAX_VALUE), -2);
+    due.is("hand(0, 2, 0): UNKNOWN is told first", y.hand(0, 2, 0), -1);
+    due.is("hand(2, 0, 1)", y.hand(2, 0, 1), -1);
+    due.is("hand(-1, 0, 1)", y.hand(-1, 0, 1), -1);
+    due.is("hand(0, -1, 1)", y.hand(0, -1, 1), -1);
+    due.is("hand(5, 5, 1)", y.hand(5, 5, 1), -1);
+    due.unchanged();
   }
 
   private static void pay() {
@@ -292,16 +313,20 @@ public final class FortressTest {
     due.is("pay(0, 2)", x.pay(0, 2), 1);
     due.is("stamps left", x.guard(0, 1), 3);
     due.is("owed", x.guard(0, 2), 1);
-    due.refused("does not owe as many", x, () -> x.pay(0, 2), -3);
-    due.refused("has not as many", x, () -> x.pay(1, 3), -3);
+    due.watch(x);
+    due.is("does not owe as many", x.pay(0, 2), -3);
+    due.is("has not as many", x.pay(1, 3), -3);
+    due.unchanged();
     due.is("pay(1, 2)", x.pay(1, 2), 3);
     due.is("pay(0, 1)", x.pay(0, 1), 0);
     due.is("pay(2, 9)", x.pay(2, 9), 0);
     due.is("no act", x.about(8), 0);
-    due.refused("pay(0, 0)", x, () -> x.pay(0, 0), -2);
-    due.refused("pay(0, 10)", x, () -> x.pay(0, 10), -2);
-    due.refused("pay(0, least)", x, () -> x.pay(0, Integer.MIN_VALUE), -2);
-    due.refused("pay(3, 0): UNKNOWN is told first", x, () -> x.pay(3, 0), -1);
-    due.refused("pay(-1, 1)", x, () -> x.pay(-1, 1), -1);
+    due.watch(x);
+    due.is("pay(0, 0)", x.pay(0, 0), -2);
+    due.is("pay(0, 10)", x.pay(0, 10), -2);
+    due.is("pay(0, least)", x.pay(0, Integer.MIN_VALUE), -2);
+    due.is("pay(3, 0): UNKNOWN is told first", x.pay(3, 0), -1);
+    due.is("pay(-1, 1)", x.pay(-1, 1), -1);
+    due.unchanged();
   }
 }

@@ -228,8 +228,10 @@ public final class RotasTest {
     for (int i = 0; i < 4; i++) due.is("plan(" + i + ", 0)", x.plan(i, 0), i + 4);
     due.is("more than beds may be planned", x.plan(0, 7), 0);
     due.is("no act", x.about(8), 0);
-    for (int i : new int[] {-1, 4, Integer.MIN_VALUE, Integer.MAX_VALUE}) due.refused("plan(" + i + ", 0)", x, () -> x.plan(i, 0), -2);
-    for (int s : new int[] {8, -1, 1 << 31, Integer.MAX_VALUE}) due.refused("plan(0, " + s + ")", x, () -> x.plan(0, s), -2);
+    due.watch(x);
+    for (int i : new int[] {-1, 4, Integer.MIN_VALUE, Integer.MAX_VALUE}) due.is("plan(" + i + ", 0)", x.plan(i, 0), -2);
+    for (int s : new int[] {8, -1, 1 << 31, Integer.MAX_VALUE}) due.is("plan(0, " + s + ")", x.plan(0, s), -2);
+    due.unchanged();
     due.is("as it was", x.plan(0, 1), 7);
   }
 

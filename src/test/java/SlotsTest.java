@@ -12,15 +12,21 @@ public final class SlotsTest {
 
   private static void wrong() {
     SleepByRation x = Due.fort("F112G0034");
+    due.watch(x);
     for (int s : new int[] {-1, 2, Integer.MIN_VALUE, Integer.MAX_VALUE}) {
-      due.refused("keep(" + s + ")", x, () -> x.keep(s), -1);
-      due.refused("again(" + s + ")", x, () -> x.again(s), -1);
+      due.is("keep(" + s + ")", x.keep(s), -1);
+      due.is("again(" + s + ")", x.again(s), -1);
     }
+    due.unchanged();
     x.quarter(0);
-    due.refused("again(0) of nothing", x, () -> x.again(0), -3);
-    due.refused("again(1) of nothing", x, () -> x.again(1), -3);
+    due.watch(x);
+    due.is("again(0) of nothing", x.again(0), -3);
+    due.is("again(1) of nothing", x.again(1), -3);
+    due.unchanged();
     due.is("keep(1)", x.keep(1), 1);
-    due.refused("again(0), the other one was kept", x, () -> x.again(0), -3);
+    due.watch(x);
+    due.is("again(0), the other one was kept", x.again(0), -3);
+    due.unchanged();
   }
 
   private static void keepAndAgain() {
