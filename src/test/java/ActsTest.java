@@ -18,13 +18,7 @@ public final class ActsTest {
   }
 
   private static long[] tired(SleepByRation x) {
-    return row(x, 0);
-  }
-
-  private static long[] row(SleepByRation x, int what) {
-    long[] all = new long[x.about(0)];
-    for (int g = 0; g < all.length; g++) all[g] = x.guard(g, what);
-    return all;
+    return Due.row(x, 0);
   }
 
   private static void mayByBeds() {
@@ -77,15 +71,15 @@ public final class ActsTest {
     x.sick(3, true);
     due.is("quarter(11)", x.quarter(11), 4);
     due.are("tired", tired(x), 0, 0, 7, 8);
-    due.are("stamps", row(x, 1), 8, 8, 9, 0);
-    due.are("owed", row(x, 2), 0, 1, 2, 4);
-    due.are("how often in bed", row(x, 6), 1, 1, 0, 1);
+    due.are("stamps", Due.row(x, 1), 8, 8, 9, 0);
+    due.are("owed", Due.row(x, 2), 0, 1, 2, 4);
+    due.are("how often in bed", Due.row(x, 6), 1, 1, 0, 1);
     due.is("quarters", x.about(3), 1);
     due.is("blind", x.about(4), 0);
     due.is("acts", x.about(8), 1);
     due.is("quarter(15): all in bed", x.quarter(15), 0);
     due.is("blind", x.about(4), 1);
-    due.are("how often in bed", row(x, 6), 2, 2, 1, 2);
+    due.are("how often in bed", Due.row(x, 6), 2, 2, 1, 2);
     // One that nods and goes to bed does not nod, though it is still tired beyond LIMIT.
     SleepByRation y = Due.fort("F110G5010");
     due.is("quarter(0)", y.quarter(0), 0);
@@ -144,33 +138,33 @@ public final class ActsTest {
   private static void quarterOfTwins() {
     SleepByRation more = Due.fort("F530G0030G0050T01G0010");
     due.is("quarter(3)", more.quarter(3), 4);
-    due.are("the one that has more gives", row(more, 1), 3, 4, 1);
+    due.are("the one that has more gives", Due.row(more, 1), 3, 4, 1);
     more.quarter(3);
     due.are("of like ones the lesser", new long[] {more.quarter(3), more.guard(0, 1), more.guard(1, 1)}, 4, 2, 3);
     SleepByRation like = Due.fort("F530G0010G0010T10");
     due.is("quarter(3)", like.quarter(3), 0);
-    due.are("one gives, once", row(like, 1), 0, 1);
+    due.are("one gives, once", Due.row(like, 1), 0, 1);
     due.is("quarter(3)", like.quarter(3), 0);
-    due.are("then the other", row(like, 1), 0, 0);
+    due.are("then the other", Due.row(like, 1), 0, 0);
     due.is("none left", like.quarter(3), -3);
     SleepByRation first = Due.fort("F530G0050G0030T01");
     first.quarter(3);
-    due.are("the first has more", row(first, 1), 4, 3);
+    due.are("the first has more", Due.row(first, 1), 4, 3);
     SleepByRation sick = Due.fort("F530G0050G0030T01");
     sick.sick(0, true);
     sick.quarter(3);
-    due.are("one is sick: stamps", row(sick, 1), 5, 2);
-    due.are("one is sick: owed", row(sick, 2), 1, 0);
+    due.are("one is sick: stamps", Due.row(sick, 1), 5, 2);
+    due.are("one is sick: owed", Due.row(sick, 2), 1, 0);
     sick.sick(1, true);
     sick.quarter(3);
-    due.are("both are sick: stamps", row(sick, 1), 5, 2);
-    due.are("both are sick: owed", row(sick, 2), 2, 1);
+    due.are("both are sick: stamps", Due.row(sick, 1), 5, 2);
+    due.are("both are sick: owed", Due.row(sick, 2), 2, 1);
     SleepByRation alone = Due.fort("F530G0050G0030T01");
     due.is("one in bed", alone.quarter(2), 1);
-    due.are("it gives its own", row(alone, 1), 5, 2);
+    due.are("it gives its own", Due.row(alone, 1), 5, 2);
     SleepByRation pairs = Due.fort("F530G0020G0030G0010G0010T02T13");
     due.is("two pairs", pairs.quarter(15), 0);
-    due.are("each pair one", row(pairs, 1), 1, 2, 1, 1);
+    due.are("each pair one", Due.row(pairs, 1), 1, 2, 1, 1);
   }
 
   private static void quarterWrong() {

@@ -1,8 +1,25 @@
+import java.util.ArrayList;
+import java.util.List;
+
 /** Counts and prints the answers that are not the ones that are due. */
 final class Due {
+  /** A sentence of the document and how many answers were asked for it. */
+  static final class Sentence {
+    final String section;
+    final String words;
+    int answers = 0;
+
+    Sentence(String section, String words) {
+      this.section = section;
+      this.words = words;
+    }
+  }
+
   private final String name;
+  private final List<Sentence> sentences = new ArrayList<>();
   private int asked = 0;
   private int wrong = 0;
+  private Sentence sentence;
   private SleepByRation watched;
   private long[] before;
 
@@ -10,11 +27,23 @@ final class Due {
     this.name = name;
   }
 
+  /** From here on the answers are those that this sentence of the document asks for. */
+  void says(String section, String words) {
+    sentence = new Sentence(section, words);
+    sentences.add(sentence);
+  }
+
+  List<Sentence> sentences() {
+    return sentences;
+  }
+
   void is(String call, long got, long want) {
     asked++;
+    if (sentence != null) sentence.answers++;
     if (got != want) {
       wrong++;
-      System.out.println(name + ": " + call + " answered " + got + ", due is " + want);
+      String said = sentence == null ? "" : sentence.section + ", \"" + sentence.words + "\": ";
+      System.out.println(name + ": " + said + call + " answered " + got + ", due is " + want);
     }
   }
 
@@ -46,6 +75,24 @@ final class Due {
     put(x, text);
     if (x.fortress() < 0) throw new IllegalStateException("no fortress: " + text);
     return x;
+  }
+
+  /** The text is another one, and it is the fortress: what fortress() answers. */
+  static int anew(SleepByRation x, String text) {
+    x.wipe();
+    put(x, text);
+    return x.fortress();
+  }
+
+  static void quarters(SleepByRation x, int... sets) {
+    for (int set : sets) x.quarter(set);
+  }
+
+  /** One thing of all guards: what as guard() has it. */
+  static long[] row(SleepByRation x, int what) {
+    long[] all = new long[x.about(0)];
+    for (int g = 0; g < all.length; g++) all[g] = x.guard(g, what);
+    return all;
   }
 
   /** All of an object that can be told: some 60 calls, of the 512 that it is used for. */
