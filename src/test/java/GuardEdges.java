@@ -32,8 +32,8 @@ final class GuardEdges {
     long[] none = new long[11];
     for (int w = 0; w <= 10; w++) none[w] = x.about(w);
     due.are("of a new object", none, 0, 0, 1, 0, 0, 0, 0, 0, 0, 0, 0);
-    SleepByRation y = Due.fort("F506G9900G9900G9900G9900G9900");
-    // All nod behind the first quarter; the fifth is woken by its bed.
+    SleepByRation y = Due.fort("F506G9900G9900G9900G9900G0000");
+    // All but the fifth nod behind the first quarter; with it in bed the wall is blind.
     Due.quarters(y, 0);
     y.sick(4, true);
     Due.quarters(y, 16);
@@ -44,10 +44,10 @@ final class GuardEdges {
     y.use(2, 0, 0);
     long[] all = new long[11];
     for (int w = 0; w <= 10; w++) all[w] = y.about(w);
-    // 99, 98, and 99 by the drum; the fifth 99, 95.
-    due.are("of five", all, 5, 5, 6, 2, 2, 0, 24, 491, 3, 3, 29);
+    // 99, 98, and 99 by the drum; the fifth 2, 0.
+    due.are("of five", all, 5, 5, 6, 2, 1, 0, 24, 396, 3, 3, 29);
     y.undo();
-    due.are("who nods, tired of all", new long[] {y.about(5), y.about(7)}, 15, 487);
+    due.are("who nods, tired of all", new long[] {y.about(5), y.about(7)}, 15, 392);
   }
 
   private static void aboutBad() {
@@ -193,7 +193,7 @@ final class GuardEdges {
 
   private static void payUnknown() {
     EdgesTest.promise(10, "PAID: what it owes then. UNKNOWN;");
-    SleepByRation x = Due.fort("F199G0055G0055");
+    SleepByRation x = Due.fort("F199G0065G0085");
     due.is("pay(0, 1)", x.pay(0, 1), 4);
     due.is("pay(1, 5)", x.pay(1, 5), 0);
     due.watch(x);

@@ -104,7 +104,7 @@ final class RefusalEdges {
     x.keep(0);
     for (int q = 0; q < 7; q++) x.quarter(q % 2);
     x.keep(1);
-    for (int u = 0; u < 12; u++) x.use(u % 5, u % 4, u % 3);
+    for (int u = 0; u < 12; u++) x.use(u / 2 * 7, u % 4, u % 3);
     for (int n = 32; n < 48; n++) x.write(1, '0');
     return x;
   }

@@ -87,6 +87,7 @@ final class RotaEdges {
     SleepByRation x = Due.fort("F150G0010G0000");
     due.are("in bed at once is best for one", rotaOf(x, 1), 2, 1);
     due.are("but not for two", rotaOf(x, 2), 4, 0, 1);
+    due.are("less tired behind the first is no matter", rotaOf(Due.fort("F399G2010G2010G2010G2010"), 2), 72, 1, 14);
     due.are("all together, not the first alone", rotaOf(Due.fort("F150G0110G0910"), 1), 8, 2);
   }
 

@@ -96,8 +96,8 @@ final class TextEdges {
     SleepByRation none = new SleepByRation();
     Due.put(none, "F199");
     due.is("none", none.fortress(), 0);
-    due.is("seven", Due.fort(WHOLE).about(0), 5);
-    due.is("seven in another order", Due.faultOf("F199G0000G0000T10G0000G0000T32G0000"), -9);
+    due.are("seven, the last of them twins", Due.row(Due.fort(WHOLE), 5), 1, 0, 3, 2, -9);
+    due.are("seven in another order", Due.row(Due.fort("F199G0000G0000T10G0000G0000T32G0000"), 5), 1, 0, 3, 2, -9);
     for (char c : new char[] {'F', 'H', 'S', 'U', 'g', 't', '0', ' ', 0, 'G' + 128, 'T' + 128}) {
       due.is("no part begins with " + (int) c, Due.faultOf("F199G0000G0000" + c), 14);
     }
